@@ -67,8 +67,33 @@ final class Checks {
         return x;
     }
 
-    /** The fault of a text, told by its kind and by the place of a sign in it. */
-    void officeFault(String text, int kind, int place) {
-        is("office() of '" + text + "'", office(new SoulRaffle(), text), kind + 16 * place);
+    /** The fault of a text in which a ^ stands ahead of the token that is wrong. */
+    void officeFault(int kind, String marked) {
+        String text = marked.replace("^", "");
+        is("office() of '" + text + "'", office(new SoulRaffle(), text), kind + 16 * marked.indexOf('^'));
+    }
+
+    /** The same of a year, of the object's office. */
+    void yearFault(SoulRaffle x, int kind, String marked) {
+        String text = marked.replace("^", "");
+        is("year() of '" + text + "'", year(x, text), kind + 16 * marked.indexOf('^'));
+    }
+
+    /** One row of answers for the arguments 0, 1, 2, .. */
+    interface Asked {
+        int of(int argument);
+    }
+
+    void row(String call, Asked asked, int... due) {
+        for (int i = 0; i < due.length; i++) {
+            is(call + " of " + i, asked.of(i), due[i]);
+        }
+    }
+
+    /** Wrong numbers of a PERSON or GOOD where there are so many: all have this answer. */
+    void wrong(String call, Asked asked, int most, int due) {
+        for (int argument : new int[] {-1, -2, most, most + 1, Integer.MAX_VALUE, Integer.MIN_VALUE}) {
+            is(call + " of " + argument, asked.of(argument), due);
+        }
     }
 }
