@@ -8,6 +8,7 @@ public final class EndTest {
         rests(c);
         luck(c);
         luckOfSwaps(c);
+        luckOfOneGood(c);
         luckOfNobody(c);
         marks(c);
         marksOfTheSeen(c);
@@ -154,6 +155,23 @@ public final class EndTest {
         return (g * 1103515245 + 12345) % 2147483648L;
     }
 
+    /** By one GOOD, too, two DRAWS go by that swap nothing. */
+    private static void luckOfOneGood(Checks c) {
+        SoulRaffle x = c.open("person a plain coins 9; person b plain coins 9; person d plain coins 9; good g worth 1 of b;");
+        x.buy(0);
+        x.buy(1);
+        for (int seed = 0; seed < 40; seed++) {
+            long g = next(seed);
+            int buyer = (int) (g / 65536 % 3);
+            g = next(next(next(g)));
+            int[] ends = {buyer == 0 ? 2 : 1, buyer == 0 || buyer == 1 ? 3 : 2, 3};
+            int ticket = (int) (g / 65536 % 3);
+            boolean isB = ticket >= ends[0] && ticket < ends[1];
+            c.is("luck(" + seed + ", 1, 1)", x.luck(seed, 1, 1), isB ? 1 : 0);
+            c.is("luck(" + seed + ", 1, 0)", x.luck(seed, 1, 0), 1);
+        }
+    }
+
     private static void luckOfNobody(Checks c) {
         SoulRaffle x = c.open("");
         c.row("luck of nobody", what -> x.luck(1, 99, what), 0, 0, 0, -1);
@@ -229,6 +247,33 @@ public final class EndTest {
         x.see(0, 7, false);
         x.mark(2, true);
         c.is("who", x.who(), 2);
+        // what differs from the first on comes back whole
+        SoulRaffle y = c.open("person a plain coins 9; person b plain coins 9; good g worth 5 of b; good h worth 5 of b;"
+            + "likes b g 3; likes a h 3;");
+        y.mark(0, false);
+        y.see(0, 6, true);
+        y.mark(1, false);
+        c.is("by g", y.who(), 2);
+        y.mark(0, true);
+        c.is("by nothing", y.who(), 3);
+        y.see(1, 6, true);
+        y.mark(2, false);
+        c.is("by h", y.who(), 1);
+        y.mark(1, true);
+        c.is("by g again", y.who(), 2);
+        y.mark(0, true);
+        y.see(0, 6, false);
+        y.mark(3, false);
+        c.is("by less", y.who(), 1);
+        y.mark(1, true);
+        c.is("by more again", y.who(), 2);
+        y.mark(0, true);
+        y.see(0, 9, true);
+        c.is("by too much", y.who(), 0);
+        y.mark(1, true);
+        c.is("by enough again", y.who(), 2);
+        y.mark(2, true);
+        c.is("by h again", y.who(), 1);
     }
 
     private static void counts(Checks c) {

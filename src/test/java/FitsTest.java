@@ -9,6 +9,8 @@ public final class FitsTest {
         offers(c);
         ringOfThree(c);
         ringsInRounds(c);
+        ringsOfSix(c);
+        ringsOfEqualOnes(c);
         ringsByWhatIsKept(c);
         wrongNumbers(c);
         c.end("FitsTest");
@@ -78,6 +80,20 @@ public final class FitsTest {
         c.row("fans", x::fans, 7, 6, 6, 6, -1);
         c.is("least", x.least(), 1);
         c.row("want of those without", p -> x.want(p + 1), 0, 0, -1);
+        // a holds three: g and k fit 9 - 2 and 5, what they hold not 6; b's one is not moved by them
+        SoulRaffle y = two(c, "good g worth 9 of a; good h worth 8 of a; good k worth 7 of a; good l worth 10 of b;"
+            + "fits price - others * 2;");
+        c.row("fit to a", good -> y.fit(0, good), 5, 4, 3, 4, -1);
+        c.row("want", y::want, 0, 3, -1);
+        c.row("fans", y::fans, 1, 0, 0, 2, -1);
+        c.is("dull", y.dull(), 6);
+        c.is("least", y.least(), 2);
+        SoulRaffle z = two(c, "good g worth 1 of a; good h worth 8 of a; good k worth 7 of a; good l worth 9 of b;");
+        c.is("least, the first GOOD", z.least(), 0);
+        SoulRaffle v = two(c, "good g worth 0 of a; good h worth 0 of a; good k worth 0 of a; good l worth 0 of b;");
+        c.is("least of all alike", v.least(), 0);
+        c.row("want of all alike", v::want, 0, 0, -1);
+        c.row("fans of all alike", v::fans, 3, 3, 3, 3, -1);
     }
 
     private static void envies(Checks c) {
@@ -144,6 +160,8 @@ public final class FitsTest {
         SoulRaffle x = three(c, "good g worth 1 of a; good h worth 1 of a; good k worth 9 of a; likes a h 1; likes b g 1;");
         c.row("gets", x::gets, 1, 0, 2, -1);
         c.is("rounds", x.rounds(), 2);
+        SoulRaffle rounds = three(c, "good g worth 1 of a; good h worth 1 of a; good k worth 9 of a;");
+        c.is("rounds, asked first", rounds.rounds(), 3);
         // a ring of two with one who points in and is left with their own
         SoulRaffle y = three(c, "good g worth 1 of a; good h worth 1 of a; good k worth 1 of a; likes a h 5; likes b g 5;"
             + "likes d g 5;");
@@ -151,6 +169,52 @@ public final class FitsTest {
         c.is("rounds", y.rounds(), 2);
         x.bring(1);
         c.row("gets without b", x::gets, 0, -1, 2, -1);
+        c.is("rounds", x.rounds(), 2);
+    }
+
+    /** Six PERSONS who hold one GOOD each. */
+    private static SoulRaffle six(Checks c, String rest) {
+        StringBuilder text = new StringBuilder();
+        for (char name = 'a'; name < 'g'; name++) {
+            text.append("person ").append(name).append(" plain coins 9;");
+        }
+        for (char name = 'm'; name < 's'; name++) {
+            text.append("good ").append(name).append(" worth 1 of a;");
+        }
+        // DRAWS by this seed below 1, 2 .. 6: 0, 1 .. 5
+        SoulRaffle x = c.open(text + rest + "seed 251;");
+        for (int person = 0; person < 6; person++) {
+            x.buy(person);
+            c.is("quarter()", x.quarter(), person);
+        }
+        return x;
+    }
+
+    private static void ringsOfSix(Checks c) {
+        SoulRaffle x = six(c, "likes a n 1;likes b o 1;likes c p 1;likes d q 1;likes e r 1;likes f m 1;");
+        c.row("gets, in one ring", x::gets, 1, 2, 3, 4, 5, 0, -1);
+        c.is("rounds", x.rounds(), 1);
+        SoulRaffle y = six(c, "");
+        c.row("gets, one by one", y::gets, 0, 1, 2, 3, 4, 5, -1);
+        c.is("rounds", y.rounds(), 6);
+        SoulRaffle z = six(c, "likes a n 1;likes b m 1;likes c p 1;likes d o 1;likes e r 1;likes f q 1;");
+        c.row("gets, in three rings", z::gets, 1, 0, 3, 2, 5, 4, -1);
+        c.is("rounds", z.rounds(), 1);
+    }
+
+    /** Of equal ones the first GOOD, not the first PERSON: d would have h or g, and a has h. */
+    private static void ringsOfEqualOnes(Checks c) {
+        // DRAWS by this seed below 1, 2 and 3: 0 0 2
+        SoulRaffle x = c.open("person b plain coins 9; person a plain coins 9; person d plain coins 9; good h worth 1 of a;"
+            + "good g worth 1 of a; good k worth 1 of a; likes d h 5; likes d g 5; likes b k 9; likes a k 9; seed 7;");
+        x.buy(1);
+        x.quarter();
+        x.buy(0);
+        x.quarter();
+        x.buy(2);
+        x.quarter();
+        c.row("who holds", good -> x.good(good, 2), 1, 0, 2);
+        c.row("gets", x::gets, 1, 2, 0, -1);
         c.is("rounds", x.rounds(), 2);
     }
 

@@ -7,6 +7,7 @@ public final class GivingTest {
         bestWhereverTheyAre(c);
         firstRow(c);
         owes(c);
+        askedFirst(c);
         odds(c);
         enough(c);
         run(c);
@@ -82,6 +83,16 @@ public final class GivingTest {
         c.row("owes", y::owes, 6, 5, 0, -1);
     }
 
+    /** Each is asked first of a new office. */
+    private static void askedFirst(Checks c) {
+        String office = "person a plain coins 1; person b plain coins 1; good g worth 5 of a; good h worth 5 of a;"
+            + "good k worth 1 of a; likes a h 5; likes b h 9;";
+        c.is("owes", c.open(office).owes(1), 5);
+        c.is("spare", c.open(office).spare(), 4);
+        c.is("best of b", c.open(office).best(1), 1);
+        c.is("best", c.open(office).best(-1), 19);
+    }
+
     private static SoulRaffle tickets(Checks c, int a, int b) {
         SoulRaffle x = c.open("person a plain coins 50; person b plain coins 50; person d plain coins 1;");
         for (int i = 0; i < a; i++) {
@@ -100,6 +111,7 @@ public final class GivingTest {
         c.row("odds of d", n -> x.odds(2, n), -1, 0, 0, 0, 0, 0, 0, -1);
         SoulRaffle y = tickets(c, 9, 0);
         c.is("all tickets", y.odds(0, 6), 1000000);
+        c.is("the only ticket", tickets(c, 1, 0).odds(0, 1), 1000000);
         c.is("none", y.odds(1, 1), 0);
         c.is("no tickets at all", tickets(c, 0, 0).odds(0, 1), -1);
         SoulRaffle z = c.open("person a plain coins 9; person b plain coins 9; person d plain coins 9; person e plain coins 9;"
@@ -122,7 +134,15 @@ public final class GivingTest {
         c.is("a by 99", x.enough(0, 99), -1);
         c.is("b by 99", x.enough(1, 99), 99);
         c.is("d by 75", x.enough(2, 75), 9);
+        SoulRaffle v = c.open("person n plain coins 0; person a plain coins 9; person b plain coins 9; person d plain coins 9;");
+        for (int i = 0; i < 19; i++) {
+            v.buy(1 + i / 9);
+        }
+        c.is("of 19 of others by 83", v.enough(0, 83), 93);
+        c.is("of 19 of others by 84, a hundred", v.enough(0, 84), -1);
         SoulRaffle y = tickets(c, 3, 0);
+        c.is("none of others, by 100", y.enough(0, 100), -1);
+        c.is("none of others, by 0", y.enough(0, 0), -1);
         c.is("none of others", y.enough(0, 99), 1);
         c.is("none of others, by 1", y.enough(0, 1), 1);
         c.is("none at all", tickets(c, 0, 0).enough(1, 1), 1);

@@ -5,6 +5,7 @@ public final class LawTest {
         numbers(c);
         operators(c);
         order(c);
+        longLaws(c);
         facts(c);
         c.end("LawTest");
     }
@@ -74,6 +75,22 @@ public final class LawTest {
         fits(c, "0 and (0 or 1)", 0);
         fits(c, "1 < 2 and 2 < 1 or 3 = 3", 1);
         fits(c, "((2 + 1) * (3 - 1)) * 2", 12);
+    }
+
+    /** As many sums waiting for their last part as there can be, and as many parts as a tape holds. */
+    private static void longLaws(Checks c) {
+        fits(c, deep("1"), 1);
+        fits(c, deep("0"), 0);
+        SoulRaffle x = c.open("person a plain coins 1; good g worth 7 of a; fits " + "0+".repeat(470) + "7;");
+        c.is("a long sum", x.fit(0, 0), 7);
+    }
+
+    private static String deep(String inmost) {
+        String law = "0 or 0 = 1 - 1 * " + inmost;
+        for (int i = 0; i < 4; i++) {
+            law = "0 or 0 = 1 - 1 * (" + law + ")";
+        }
+        return law;
     }
 
     private static void facts(Checks c) {

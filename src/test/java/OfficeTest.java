@@ -14,6 +14,8 @@ public final class OfficeTest {
         tooMany(c);
         leastOfKinds(c);
         beginsAnew(c);
+        nothingIsLeftOver(c);
+        seedIsNought(c);
         staysWithAFault(c);
         c.end("OfficeTest");
     }
@@ -30,12 +32,13 @@ public final class OfficeTest {
         c.row("owner", g -> x.good(g, 1), 3, 0, -2);
         c.row("fit of mine", p -> x.fit(p, 1), 1, 20, 0, 0, -1);
         c.row("fit of abcdefgh", p -> x.fit(p, 0), 30, 30, 30, 30, -1);
+        c.is("others may be a NAME", c.open("person others plain coins 1;").count(0), 1);
         c.is("a blank text", Checks.office(x, " \n "), 0);
         c.is("persons then", x.count(0), 0);
     }
 
     private static void tokens(Checks c) {
-        c.open("person a plain coins 1person b plain coins 2".replace("1p", "1;p") + ";good g worth 3of a;seed0;fits1;");
+        c.open("person a plain coins 1;good g worth 3of a;seed0;fits1;");
         c.open("person\n\na\nplain   coins 50;fits(1+2)*3<4and not 5or price=like;");
         c.officeFault(1, "person ^abcdefghi plain coins 1;");
         c.officeFault(1, "person a plain coins ^00001;");
@@ -74,6 +77,13 @@ public final class OfficeTest {
         c.officeFault(1, "person a plain coins ^;");
         c.officeFault(1, "person a plain coins ^a;");
         c.officeFault(1, "person a plain coins 1 ^person b");
+        c.officeFault(1, "person a plain ^seed 1;");
+        c.officeFault(1, "person a plain coins ^seed 1;");
+        c.officeFault(1, P + "good g ^seed 1;");
+        c.officeFault(1, P + "good g worth 1 ^seed 1;");
+        c.officeFault(1, PG + "likes a g ^seed 1;");
+        c.officeFault(1, PG + "likes a g 1; likes a ^1");
+        c.officeFault(1, PG + "likes a g 1; likes a ^;");
         c.officeFault(1, "person a plain coins 1 ^1;");
         c.officeFault(1, "person a plain coins 1 ^");
         c.officeFault(1, P + "good g ^1");
@@ -185,15 +195,55 @@ public final class OfficeTest {
         x.buy(0);
         x.quarter();
         x.see(0, 1, true);
-        x.mark(2, false);
+        for (int mark = 0; mark < 4; mark++) {
+            x.mark(mark, false);
+        }
         c.is("held", x.good(0, 2), 0);
         c.is("office()", Checks.office(x, "person b mate coins 4; good h worth 2 of b;"), 0);
         c.row("count", x::count, 1, 1, 0, 1, 0, 4, 0, 0, 0, 0, 0);
         c.is("holder", x.good(0, 2), -1);
         c.is("undo()", x.undo(), false);
-        c.is("mark(2, true)", x.mark(2, true), false);
+        for (int mark = 0; mark < 4; mark++) {
+            c.is("mark(" + mark + ", true)", x.mark(mark, true), false);
+        }
         c.row("judged", x::judged, -1, -1, 0);
         c.is("best", x.best(-1), 2);
+    }
+
+    /** What the office before the last told is not left over. */
+    private static void nothingIsLeftOver(Checks c) {
+        SoulRaffle x = c.open("person a plain coins 9; good g worth 1 of a; likes a g 20; seed 9; fits 50;");
+        c.is("another", Checks.office(x, PG + "fits like;"), 0);
+        c.is("no like", x.fit(0, 0), 0);
+        c.is("a third", Checks.office(x, PG), 0);
+        c.is("no like, no law", x.fit(0, 0), 1);
+        c.is("no seed", Checks.office(x, "seed 3; fits 1;"), 0);
+        c.is("with a fault", Checks.office(x, "person a plain coins 51"), 4 + 16 * 21);
+        c.is("the signs behind are gone", Checks.office(x, "person a plain coins 5"), 1 + 16 * 22);
+        c.is("letters, too", Checks.office(x, "person abcd"), 1 + 16 * 11);
+        c.is("the signs behind are gone", Checks.office(x, "person a"), 1 + 16 * 8);
+        StringBuilder most = new StringBuilder();
+        for (char name = 'a'; name < 'g'; name++) {
+            most.append("person ").append(name).append(" plain coins 1;");
+        }
+        most.append("good m worth 9 of a;good n worth 9 of a;");
+        c.is("six", Checks.office(x, most.toString()), 0);
+        c.is("best", x.best(-1), 18);
+        c.is("six again", Checks.office(x, most.toString()), 0);
+        c.is("best", x.best(-1), 18);
+        c.is("one", Checks.office(x, PG + "good h worth 9 of a;"), 0);
+        c.is("best", x.best(-1), 9);
+        c.is("owes", x.owes(0), 0);
+        c.is("shillings", x.count(5), 1);
+    }
+
+    /** DRAWS without a seed are by 0: below 2 0 0 0 1, by 1 0 0 1 1. */
+    private static void seedIsNought(Checks c) {
+        SoulRaffle x = c.open("person a plain coins 1; person b plain coins 1; good g worth 1 of a; good h worth 1 of a;"
+            + "good k worth 1 of a; good l worth 1 of a;");
+        x.buy(0);
+        x.buy(1);
+        c.row("winner", x::winner, -1, 0, 0, 0, 1);
     }
 
     private static void staysWithAFault(Checks c) {

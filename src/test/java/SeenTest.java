@@ -102,6 +102,7 @@ public final class SeenTest {
             102);
         c.is("99", c.open("person a plain coins 1; person b plain coins 1; good g worth 1 of a; likes a g 1;"
             + "fits 96 + like * 2 + price;").ask(), 98);
+        c.is("1 itself", c.open("person a plain coins 1; person b plain coins 1; good g worth 0 of a; fits mine;").ask(), 1);
         c.is("99 itself", c.open("person a plain coins 1; person b plain coins 1; good g worth 1 of a;"
             + "fits 98 + mine;").ask(), 99);
     }

@@ -10,6 +10,7 @@ public final class YearTest {
         fortyLines(c);
         judges(c);
         judgesFromTheBegin(c);
+        judgesSwaps(c);
         c.end("YearTest");
     }
 
@@ -116,5 +117,19 @@ public final class YearTest {
             + "good h worth 2 of b; likes a h 9; likes b g 9;");
         is(c, y, "buy a;quarter;swap g h;", 2, 1, 1);
         c.is("judged twice", y.judged(0), 2);
+    }
+
+    /** Swaps of a YEAR are done, by the very two that it names. */
+    private static void judgesSwaps(Checks c) {
+        // DRAWS by seed 1 below 1, 1, 2: 0 0 1: a has g and k, b has h
+        SoulRaffle x = c.open("person a plain coins 1; person b plain coins 1; person m plain coins 0; good g worth 1 of m;"
+            + "good k worth 1 of b; good h worth 1 of a; likes a h 5; likes b k 5; likes b g 5; seed 1;");
+        String ahead = "buy a;quarter;quarter;buy b;quarter;";
+        is(c, x, ahead, -1, -1, 0);
+        is(c, x, ahead + "swap k h;", -1, 5, 2);
+        is(c, x, ahead + "swap h k;quarter;", -1, 5, 2);
+        is(c, x, ahead + "swap g h;", -1, 5, 1);
+        is(c, x, ahead + "swap h g;swap g h;bring h;", 6, 5, 0);
+        is(c, x, ahead + "swap g k;swap h k;", 5, 6, 2);
     }
 }
