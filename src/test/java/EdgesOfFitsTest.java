@@ -24,6 +24,7 @@ public final class EdgesOfFitsTest {
         t.dull();
         t.ringsPutInTheFirst();
         t.ringsOfEqualOnes();
+        t.ringsOfTheFirstGood();
         t.ringsByWhatTheyKeep();
         t.ringsOut();
         t.getsOfOthers();
@@ -269,6 +270,18 @@ public final class EdgesOfFitsTest {
         SoulRaffle y = c.held(3, Checks.persons(3, "plain", 9) + Checks.goods(3, 1, "a") + "likes c o 1; likes a m 1;", 2, 1, 0);
         c.row("c for o, a for m, b for m", y::gets, 0, 1, 2, -1);
         c.is("rounds", y.rounds(), 2);
+    }
+
+    /** b would have m or o, who have these would have n: the first GOOD, whoever put it in. */
+    private void ringsOfTheFirstGood() {
+        c.edge(30, "of equal ones the first)");
+        String rest = Checks.goods(3, 1, "a") + "likes a n 5; likes c n 5; likes b m 5; likes b o 5;";
+        SoulRaffle x = c.held(3, Checks.persons(3, "plain", 9) + rest, 0, 1, 2);
+        c.row("m is a's", x::gets, 1, 0, 2, -1);
+        SoulRaffle y = c.held(3, Checks.persons(3, "plain", 9) + rest, 2, 1, 0);
+        c.row("m is c's", y::gets, 2, 0, 1, -1);
+        SoulRaffle z = c.held(3, Checks.persons(3, "plain", 9) + rest + "likes b n 5;", 2, 1, 0);
+        c.row("m ahead of their own n, too", z::gets, 2, 0, 1, -1);
     }
 
     private void ringsByWhatTheyKeep() {

@@ -112,6 +112,16 @@ public final class EdgesOfGivingTest {
         c.is("asked again", x.best(-1), 6);
         c.is("another OFFICE", Checks.office(x, persons(1) + Checks.goods(1, 7, "a")), 0);
         best(x, 7, 0, -2);
+        for (int many = 1; many <= 6; many++) {
+            for (int goods = 0; goods <= 8; goods++) {
+                SoulRaffle y = c.open(persons(6) + Checks.goods(8, 9, "a"));
+                c.is("of the OFFICE ahead", y.best(-1), 54);
+                c.is("an OFFICE of fewer", Checks.office(y, persons(many) + Checks.goods(goods, 1, "a")), 0);
+                c.is("best of " + many + " and " + goods, y.best(-1), Math.min(many, goods));
+                c.is("the last of " + many + " and " + goods, y.best(many - 1), goods >= many ? many - 1 : -1);
+                c.is("owes of " + many + " and " + goods, y.owes(0), goods > 0 && goods < many ? 1 : 0);
+            }
+        }
     }
 
     private void owesNothing() {

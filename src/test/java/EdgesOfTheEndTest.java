@@ -26,6 +26,7 @@ public final class EdgesOfTheEndTest {
         t.marksFromNoughtToThree();
         t.marksWithNothingOnThem();
         t.marksHoldAll();
+        t.marksHoldTheSeen();
         t.marksAndUndo();
         t.marksOfAnOffice();
         t.countOfOthers();
@@ -420,6 +421,46 @@ public final class EdgesOfTheEndTest {
         x.bring(1);
         c.is("back to the new", x.mark(1, true), true);
         c.row("who HOLDS", g -> x.good(g, 2), -1, 1, -1, -1);
+    }
+
+    /** By three GOODS, by how much, by more or less: what is SEEN comes back whole. */
+    private void marksHoldTheSeen() {
+        c.edge(48, "what is SEEN (nothing can be undone when one is gone back to)");
+        SoulRaffle x = c.open(persons(3) + Checks.goods(2, 1, "a") + "likes a m 4; likes b n 4; likes c m 2;");
+        c.is("nothing SEEN", x.mark(0, false), true);
+        Runnable[] sights = {() -> x.see(0, 5, true), () -> x.see(1, 5, true), () -> x.see(0, 2, false), () -> x.see(0, 3, true)};
+        int[] who = {1, 2, 2, 5};
+        for (int i = 0; i < sights.length; i++) {
+            x.mark(0, true);
+            sights[i].run();
+            c.is("who by sight " + i, x.who(), who[i]);
+            for (int j = 0; j < sights.length; j++) {
+                x.mark(0, true);
+                sights[i].run();
+                x.mark(3, false);
+                x.mark(0, true);
+                sights[j].run();
+                c.is("who by sight " + j, x.who(), who[j]);
+                x.mark(2, false);
+                c.is("back", x.mark(3, true), true);
+                c.is("who by sight " + i + " again", x.who(), who[i]);
+                c.is("forth", x.mark(2, true), true);
+                c.is("who by sight " + j + " again", x.who(), who[j]);
+            }
+        }
+        SoulRaffle y = c.open(persons(2) + Checks.goods(1, 1, "a") + "likes b m 1;");
+        for (int i = 0; i < 7; i++) {
+            y.see(0, 0, true);
+        }
+        y.see(0, 2, true);
+        y.mark(1, false);
+        y.mark(0, false);
+        c.is("all eight", y.who(), 2);
+        c.is("an OFFICE with a FAULT", Checks.office(y, "x"), 1);
+        c.is("back", y.mark(1, true), true);
+        c.is("all eight still", y.who(), 2);
+        c.is("SEEN", y.count(8), 8);
+        c.is("a ninth", y.see(0, 0, true), false);
     }
 
     private void marksAndUndo() {

@@ -160,6 +160,21 @@ public final class EdgesOfTheLawTest {
         fits("5 or 0", 1);
         fits("0 or 7", 1);
         fits("0 or 0", 0);
+        c.edge(3, "comes 1 or 0;");
+        fits("(5 and 7) + 5", 6);
+        fits("(0 and 7) + 5", 5);
+        fits("(0 or 7) + 5", 6);
+        fits("(0 or 0) + 5", 5);
+        fits("not 0 + 5", 6);
+        fits("not 7 + 5", 5);
+        fits("(6 < 7) + 5", 6);
+        fits("(7 < 7) + 5", 5);
+        fits("(7 = 7) + 5", 6);
+        fits("(6 = 7) + 5", 5);
+        fits("not (0 and 1)", 1);
+        fits("not (0 or 0)", 1);
+        fits("not (1 < 0)", 1);
+        fits("not (1 = 0)", 1);
     }
 
     private void whatIsSo() {

@@ -1,3 +1,8 @@
+import java.util.ArrayList;
+import java.util.Arrays;
+import java.util.Collections;
+import java.util.List;
+
 /** The edges of promises 3 and 4: an OFFICE, a YEAR, their FAULTS; in those texts ^ stands ahead of the wrong token. */
 public final class EdgesOfTheOfficeTest {
     private static final String P = "person a plain coins 1; ";
@@ -33,6 +38,7 @@ public final class EdgesOfTheOfficeTest {
         t.leastOfKinds();
         t.oneTooMany();
         t.fromThenOn();
+        t.nothingIsLeftOver();
         t.allStays();
         t.aYearIsTheYear();
         t.c.edgesOf(3, 4);
@@ -466,6 +472,72 @@ public final class EdgesOfTheOfficeTest {
             g = Checks.next(g);
             c.is("winner(" + i + ")", z.winner(i), Checks.drawn(g, 2));
         }
+    }
+
+    /** All that can be asked of an OFFICE, as one row. */
+    private static int[] asked(SoulRaffle x) {
+        List<Integer> row = new ArrayList<>();
+        for (int p = 0; p < 6; p++) {
+            row.add(x.buy(p));
+        }
+        for (int what = 0; what <= 9; what++) {
+            row.add(x.count(what));
+            row.add(x.judged(what));
+            row.add(x.offers(what));
+            row.add(x.luck(7, 30, what));
+            row.add(x.best(what - 2));
+        }
+        for (int p = 0; p <= 8; p++) {
+            for (int i = 0; i <= 3; i += 3) {
+                Collections.addAll(row, x.person(p, i), x.good(p, i), x.fit(p, i), x.has(p, i), x.where(p, i), x.won(p, i),
+                    x.streak(p, i), x.odds(p, i), x.enough(p, 10 * i));
+            }
+            Collections.addAll(row, x.moves(p), x.joy(p), x.envy(p), x.want(p), x.fans(p), x.gets(p), x.owes(p), x.run(p), x.lack(p),
+                x.winner(p));
+        }
+        Collections.addAll(row, x.home(), x.empty(), x.least(), x.rights(), x.dull(), x.rounds(), x.best(-1), x.spare(), x.who(),
+            x.ask(), x.rich(), x.sad(), x.debt(), x.poor());
+        return row.stream().mapToInt(i -> i).toArray();
+    }
+
+    /** What OFFICES ahead told, with a FAULT or without, is not left over. */
+    private void nothingIsLeftOver() {
+        c.edge(3, "Without a FAULT an OFFICE is the OFFICE from then on");
+        StringBuilder goods = new StringBuilder();
+        for (int i = 0; i < 8; i++) {
+            goods.append("good ").append((char) ('m' + i)).append(" worth ").append(30 - 3 * i).append(" of f;");
+        }
+        String most = Checks.persons(6, "mate", 50) + goods + "likes a m 20; likes b n 20; likes a n 3;"
+            + "likes f t 9; seed 77; fits price + like + 40;";
+        String[] few = {"", "seed 3;", Checks.persons(1, "plain", 1), P, PG, PG + "good h worth 2 of a;",
+            Checks.persons(2, "proud", 3) + Checks.goods(2, 1, "b"), Checks.persons(3, "meek", 0) + Checks.goods(1, 1, "c"),
+            Checks.persons(5, "plain", 2) + Checks.goods(7, 1, "a"), Checks.persons(2, "plain", 9) + Checks.goods(8, 0, "b")};
+        for (String text : few) {
+            int[] due = asked(c.open(text));
+            for (int times = 1; times <= 3; times++) {
+                SoulRaffle x = new SoulRaffle();
+                for (int i = 0; i < times; i++) {
+                    tellMore(x, most);
+                }
+                c.is("an OFFICE of few", Checks.office(x, text), 0);
+                c.is("as of a new object: '" + text + "'", Arrays.equals(asked(x), due), true);
+            }
+            SoulRaffle y = new SoulRaffle();
+            tellMore(y, most);
+            c.is("one with a FAULT", Checks.office(y, most + "x") > 0, true);
+            c.is("an OFFICE of few", Checks.office(y, text), 0);
+            c.is("as of a new object, behind a FAULT: '" + text + "'", Arrays.equals(asked(y), due), true);
+        }
+    }
+
+    private void tellMore(SoulRaffle x, String most) {
+        c.is("one that told more", Checks.office(x, most), 0);
+        x.buy(5);
+        x.buy(0);
+        x.quarter();
+        x.see(0, 99, true);
+        x.best(-1);
+        x.gets(5);
     }
 
     private void allStays() {

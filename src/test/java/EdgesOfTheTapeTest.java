@@ -262,6 +262,17 @@ public final class EdgesOfTheTapeTest {
         c.officeFault(3, "person abcdefgh plain coins 1; person ^abcdefgh plain coins 2;");
         c.is("by how many letters alone", c.open("person a plain coins 1; person aa plain coins 2; person aaa plain coins 3;")
             .count(5), 6);
+        for (char letter = 'a'; letter <= 'z'; letter++) {
+            StringBuilder all = new StringBuilder();
+            for (int length = 1; length <= 8; length += length < 4 ? 1 : 4) {
+                all.append("person ").append(String.valueOf(letter).repeat(length)).append(" plain coins 1;");
+            }
+            c.is("names of " + letter + " alone", c.open(all.toString()).count(0), 5);
+            char other = letter == 'z' ? 'a' : (char) (letter + 1);
+            c.officeFault(2, "person " + letter + " plain coins 1; good hat worth 1 of ^" + letter + letter + ";");
+            c.officeFault(2, "person " + letter + other + " plain coins 1; good hat worth 1 of ^" + other + letter + ";");
+            c.officeFault(2, "person " + letter + other + " plain coins 1; good hat worth 1 of ^" + other + ";");
+        }
         SoulRaffle x = c.open("person abcdefgh plain coins 1; good m worth 1 of abcdefgh;");
         c.is("in a YEAR", Checks.year(x, "buy abcdefgh;"), 0);
         c.yearFault(x, 1, "buy ^abcdefghi;");
