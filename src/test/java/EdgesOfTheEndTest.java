@@ -263,6 +263,12 @@ public final class EdgesOfTheEndTest {
         x.quarter();
         c.row("those won ahead do not count", what -> x.luck(0, 3, what), 3, 31, 45, -1);
         c.row("none is left in the end", what -> x.luck(0, 9, what), 6, 255, 72, -1);
+        // a proud one brings it in every second quarter, and wins it again
+        SoulRaffle y = c.open(Checks.persons(1, "proud", 1) + Checks.goods(1, 4, "a"));
+        for (int quarters : new int[] {1, 2, 3, 4, 98, 99}) {
+            int wins = (quarters + 1) / 2;
+            c.row("by " + quarters, what -> y.luck(0, quarters, what), wins, quarters % 2, 4 * (quarters % 2), -1);
+        }
     }
 
     private void luckWithoutPersons() {
